@@ -306,7 +306,7 @@ public final class SeaJar {
             above += penceByLuck(luck, n);
         }
         // What is below is a power of 3, so 3 is all that the two can share.
-        while (below > 1 && above % 3 == 0) {
+        for (int w = 0; w < n && above % 3 == 0; w++) {
             above /= 3;
             below /= 3;
         }
@@ -535,7 +535,8 @@ public final class SeaJar {
         }
 
         int words(int mishaps, int habit, int price, int week) {
-            return Math.min(MOST_WORDS, mishaps * temper * habit / (price + 20));
+            int words = mishaps * temper * habit / (price + 20);
+            return words < MOST_WORDS ? words : MOST_WORDS;
         }
 
         int pays(int words, int price) {
@@ -662,8 +663,10 @@ public final class SeaJar {
         int draw = 1;
 
         void become(House other) {
-            System.arraycopy(other.people, 0, people, 0, MOST_PEOPLE);
-            System.arraycopy(other.habits, 0, habits, 0, MOST_PEOPLE);
+            for (int k = 0; k < MOST_PEOPLE; k++) {
+                people[k] = other.people[k];
+                habits[k] = other.habits[k];
+            }
             size = other.size;
             hopes = other.hopes;
             children = other.children;
@@ -838,9 +841,9 @@ public final class SeaJar {
             house.mishaps = digit(0);
             expect(';');
             boolean more = true;
-            while (more && fault == NO_FAULT && house.size < MOST_PEOPLE) {
+            for (int k = 1; more && k <= MOST_PEOPLE; k++) {
                 readPerson(house);
-                more = accept(',', house.size < MOST_PEOPLE);
+                more = k < MOST_PEOPLE && accept(',');
             }
             if (look() != END) {
                 failAt(place);
@@ -858,7 +861,7 @@ public final class SeaJar {
             int temper = digit(1);
             int tens = digit(0);
             int habit = tens * 10 + digit(0);
-            boolean hoping = !accept('x', true);
+            boolean hoping = !accept('x');
             if (fault == NO_FAULT) {
                 house.add(newPerson(kind, temper), habit, hoping);
             }
@@ -894,13 +897,13 @@ public final class SeaJar {
         }
 
         private void expect(char letter) {
-            if (!accept(letter, true)) {
+            if (!accept(letter)) {
                 failAt(place);
             }
         }
 
-        private boolean accept(char letter, boolean may) {
-            if (!may || look() != letter) {
+        private boolean accept(char letter) {
+            if (look() != letter) {
                 return false;
             }
             place++;
@@ -915,7 +918,7 @@ public final class SeaJar {
             return place < length ? letters[place] : END;
         }
 
-        /** Only the first fault counts. */
+        /** Only the first fault counts, so that what is behind it may be read on as it comes. */
         private void failAt(int where) {
             if (fault == NO_FAULT) {
                 fault = where;

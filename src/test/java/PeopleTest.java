@@ -309,6 +309,10 @@ public final class PeopleTest {
         }
         c.holds("all else stays", before.equals(Check.seen(x)));
         c.due("the tape is empty", x.house(), -20);
+        c.due("60 blanks", Check.house(x, " ".repeat(60)), -80);
+        c.due("what was typed ahead is gone", Check.house(x, "4000"), -24);
+        c.due("59 letters", Check.house(x, "4000,20,3;" + " ".repeat(49)), -79);
+        c.due("a house of 60 letters", Check.house(x, "4000,20,3;" + " ".repeat(46) + "p560"), 1);
     }
 
     /** Of a number that is too long the first four digits are the number; it is judged ahead of what follows. */

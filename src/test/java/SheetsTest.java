@@ -179,6 +179,9 @@ public final class SheetsTest {
             c.due("index " + b[0] + ", " + b[1], y.film(b[0], 0, 3, b[1]), SeaJar.INDEX);
         }
         reads(y, 0, 3, pence);
+        y.sheet(2, 1, 5);
+        y.film(2, 2, 1, 1);
+        reads(y, 2, 1, 0, 9999, 9999, 0, 0);
         SeaJar z = reader();
         z.sheet(0, 0, 1);
         z.film(1, 0, 0, 0);
@@ -210,6 +213,7 @@ public final class SheetsTest {
         c.due("item", x.item(1, 1, 5, 55), 1);
         c.due("refused", x.sheet(1, 1, -7), SeaJar.SIZE);
         reads(x, 1, 1, 0, 0, 0, 0, 0, 55);
+        x.item(1, 1, 0, 44);
         c.due("anew", x.sheet(1, 1, 24), 24);
         reads(x, 1, 1, new int[24]);
         x.item(1, 1, 23, 8);

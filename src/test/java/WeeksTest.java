@@ -1,5 +1,5 @@
 /** Promises 9 to 13: weeks, what is taken, drifts, what is undone. */
-public final class DoneTest {
+public final class WeeksTest {
     private static final Check c = new Check();
     private static final String HOUSE = "3000,20,2;p560,b430,g355,h870,s999,c111";
 
@@ -11,7 +11,7 @@ public final class DoneTest {
         undo();
         undoKnowsEight();
         seed();
-        c.end("DoneTest");
+        c.end("WeeksTest");
     }
 
     private static void weeks() {
