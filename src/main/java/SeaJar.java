@@ -11,6 +11,7 @@ public final class SeaJar {
     private static final int LAST_WEEK = 9999, MOST_WEEKS_AT_ONCE = 60, MOST_FORETOLD = 99, MOST_BY_LUCK = 6;
     private static final int PLAIN = 0, BUYER = 1, GUEST = 2, HUSHED = 3, SAINT = 4, CHILD = 5;
     private static final int KNOWN_PAST = 8, TAPE_LENGTH = 60, FAULT = -20, NUMBER_DIGITS = 4;
+    private static final int LOWEST_31_BITS = 0x7fffffff;
     private static final int SHEETS = 4, LANES = 4, MOST_ITEMS = 24, MOST_TAKEN_WEEKS = 8;
 
     private final House now = new House();
@@ -234,11 +235,11 @@ public final class SeaJar {
             return BAD;
         }
         int best = 0;
-        int fewest = Integer.MAX_VALUE;
+        int fewest = 0;
         for (int price = 1; price <= MOST_PRICE; price++) {
             tryPrice(price);
             int said = trial.liveOn(n);
-            if (said < fewest) {
+            if (best == 0 || said < fewest) {
                 best = price;
                 fewest = said;
             }
@@ -768,7 +769,7 @@ public final class SeaJar {
         }
 
         int drawMishaps() {
-            draw = draw * 1103515245 + 12345 & Integer.MAX_VALUE;
+            draw = draw * 1103515245 + 12345 & LOWEST_31_BITS;
             return draw / 65536 % 10;
         }
     }
