@@ -292,6 +292,14 @@ public final class ForetoldEdgesTest {
         c.due("only children", x.hoped(99, 0), 0);
         c.due("only children", x.hoped(99, 1), 0);
         c.due("nobody", new SeaJar().hoped(99, 0), 0);
+        SeaJar few = new SeaJar();
+        few.rule(MISHAPS, 0);
+        few.person(0, 1, 40);
+        c.due("no children", few.hoped(1, 0), 0);
+        c.due("no words", few.hoped(1, 1), 0);
+        few.person(5, 1, 0);
+        c.due("the one child", few.hoped(1, 0), 2);
+        c.due("one word", few.hoped(1, 1), 20);
     }
 
     private static void hopedOfLikeOnes() {
